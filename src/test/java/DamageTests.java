@@ -1,5 +1,3 @@
-import java.lang.reflect.Field;
-import java.lang.reflect.Method;
 import java.util.List;
 import java.util.function.Consumer;
 
@@ -7,22 +5,21 @@ import java.util.function.Consumer;
 public final class DamageTests {
     private static final int WORDS = 6;
     private static final int PER_BLOCK = 8;
-    private static final int DEEPEST = 3;
 
     private static final Due DUE = new Due();
 
     public static void main(String[] args) {
         damage("nothing is wrong", 79, x -> { });
-        damage("a byte of a key is another", -1, x -> blockOf(x, 0)[0] ^= 1);
-        damage("a place is another", -1, x -> blockOf(x, 0)[WORDS - 1] ^= 1);
-        damage("a table has lost a block's worth", -1, x -> set(tableOf(x, 0), "count", 1));
+        damage("a byte of a key is another", -1, x -> firstBlock(x, 0)[0] ^= 1);
+        damage("a place is another", -1, x -> firstBlock(x, 0)[WORDS - 1] ^= 1);
+        damage("a table has lost versions", -1, x -> Inside.set(Inside.tableOf(x, 0), "count", 1));
         damage("a block is none of the chip's", -1, x -> blocksOf(x, 0)[0] = 5000);
-        damage("a block was given back", -1,
-                x -> ((int[]) get(get(x, "chip"), "taken"))[blocksOf(x, 0)[0]] = 0);
+        damage("a block was given back", -1, x -> Inside.takenOf(x)[blocksOf(x, 0)[0]] = 0);
         damage("a table is out of order", -1, DamageTests::exchangeVersions);
         damage("tables are out of order", -1, DamageTests::exchangeTables);
         damage("two tables share a key", -1, DamageTests::shareKey);
-        damage("a block is used twice", -1, x -> tablesOf(x, DEEPEST - 1).add(tableOf(x, 0)));
+        damage("a block is used twice", -1,
+                x -> Inside.tablesOf(x, Inside.DEEPEST - 1).add(Inside.tableOf(x, 0)));
         damage("a block is written without being erased", -1, x -> write(x, blocksOf(x, 0)[0]));
         damage("a block is written that never was erased", -1, x -> write(x, 999));
         DUE.finish();
@@ -37,15 +34,15 @@ public final class DamageTests {
         x.flush();
         x.merge(true);
         how.accept(x);
-        for (int level = 0; level <= DEEPEST; level++) {
-            call(levelOf(x, level), "renumber");
+        for (int level = 0; level <= Inside.DEEPEST; level++) {
+            Inside.call(Inside.levelOf(x, level), "renumber");
         }
         DUE.answers("check, where " + what, due, x::check);
     }
 
     /** The table's sum fits its words again, so that their order alone is wrong. */
     private static void exchangeVersions(LevelTables x) {
-        long[] block = blockOf(x, 0);
+        long[] block = firstBlock(x, 0);
         for (int w = 0; w < WORDS; w++) {
             long first = block[w];
             block[w] = block[w + WORDS];
@@ -55,15 +52,15 @@ public final class DamageTests {
     }
 
     private static void exchangeTables(LevelTables x) {
-        List<Object> tables = tablesOf(x, DEEPEST);
+        List<Object> tables = Inside.tablesOf(x, Inside.DEEPEST);
         tables.add(tables.remove(0));
     }
 
     /** The second table begins with the key that the first one ends with, at a later moment. */
     private static void shareKey(LevelTables x) {
         int[] blocks = blocksOf(x, 0);
-        long[] from = chipOf(x)[blocks[blocks.length - 1]];
-        long[] to = blockOf(x, 1);
+        long[] from = Inside.chipOf(x)[blocks[blocks.length - 1]];
+        long[] to = firstBlock(x, 1);
         System.arraycopy(from, (PER_BLOCK - 1) * WORDS, to, 0, WORDS);
         to[WORDS - 1] += 1L << 42;
         sumAgain(x, 1);
@@ -71,75 +68,23 @@ public final class DamageTests {
 
     private static void sumAgain(LevelTables x, int t) {
         long sum = 0;
-        int count = (int) get(tableOf(x, t), "count");
-        for (int i = 0; i < count * WORDS; i++) {
-            int inBlock = i % (PER_BLOCK * WORDS);
-            sum = sum * 31 + chipOf(x)[blocksOf(x, t)[i / (PER_BLOCK * WORDS)]][inBlock];
+        int words = Inside.countOf(Inside.tableOf(x, t)) * WORDS;
+        for (int i = 0; i < words; i++) {
+            int block = blocksOf(x, t)[i / (PER_BLOCK * WORDS)];
+            sum = sum * 31 + Inside.chipOf(x)[block][i % (PER_BLOCK * WORDS)];
         }
-        set(tableOf(x, t), "sum", sum);
+        Inside.set(Inside.tableOf(x, t), "sum", sum);
     }
 
     private static void write(LevelTables x, int block) {
-        call(get(x, "chip"), "write", block, 0, get(x, "key"));
-    }
-
-    private static Object levelOf(LevelTables x, int level) {
-        return ((Object[]) get(x, "levels"))[level];
-    }
-
-    @SuppressWarnings("unchecked")
-    private static List<Object> tablesOf(LevelTables x, int level) {
-        return (List<Object>) get(levelOf(x, level), "tables");
-    }
-
-    private static Object tableOf(LevelTables x, int t) {
-        return tablesOf(x, DEEPEST).get(t);
+        Inside.call(Inside.get(x, "chip"), "write", block, 0, Inside.get(x, "key"));
     }
 
     private static int[] blocksOf(LevelTables x, int t) {
-        return (int[]) get(tableOf(x, t), "blocks");
+        return Inside.blocksOf(Inside.tableOf(x, t));
     }
 
-    private static long[][] chipOf(LevelTables x) {
-        return (long[][]) get(get(x, "chip"), "blocks");
-    }
-
-    private static long[] blockOf(LevelTables x, int t) {
-        return chipOf(x)[blocksOf(x, t)[0]];
-    }
-
-    private static Object get(Object object, String field) {
-        try {
-            return fieldOf(object, field).get(object);
-        } catch (ReflectiveOperationException wrong) {
-            throw new IllegalStateException(wrong);
-        }
-    }
-
-    private static void set(Object object, String field, Object value) {
-        try {
-            fieldOf(object, field).set(object, value);
-        } catch (ReflectiveOperationException wrong) {
-            throw new IllegalStateException(wrong);
-        }
-    }
-
-    private static Field fieldOf(Object object, String name) throws ReflectiveOperationException {
-        Field field = object.getClass().getDeclaredField(name);
-        field.setAccessible(true);
-        return field;
-    }
-
-    private static void call(Object object, String name, Object... arguments) {
-        try {
-            for (Method method : object.getClass().getDeclaredMethods()) {
-                if (method.getName().equals(name)) {
-                    method.setAccessible(true);
-                    method.invoke(object, arguments);
-                }
-            }
-        } catch (ReflectiveOperationException wrong) {
-            throw new IllegalStateException(wrong);
-        }
+    private static long[] firstBlock(LevelTables x, int t) {
+        return Inside.chipOf(x)[blocksOf(x, t)[0]];
     }
 }

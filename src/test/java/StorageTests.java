@@ -1,0 +1,142 @@
+import java.util.Arrays;
+import java.util.Random;
+
+/** Promises 12 and 13 inside: what goes to tables, how deep it gets, and what is left out on the way. */
+public final class StorageTests {
+    private static final int[] ALLOWED = {4, 8, 16, Integer.MAX_VALUE};
+
+    private static final Due DUE = new Due();
+
+    public static void main(String[] args) {
+        flushEmptiesMemory();
+        stepsGoDown();
+        wholeMergeLeavesWhatIsNeeded();
+        whatViewsSeeIsKept();
+        flushLeavesNoCrowd();
+        blocksComeBack();
+        DUE.finish();
+    }
+
+    private static void flushEmptiesMemory() {
+        LevelTables x = new LevelTables();
+        Tapes.lay(x, "a").put(1, 1);
+        Tapes.lay(x, "b").put(2, 2);
+        layout("two puts", x, 2, 0, 0, 0, 0);
+        x.flush();
+        layout("flushed", x, 0, 2, 0, 0, 0);
+        Tapes.lay(x, "a").put(3, 3);
+        Tapes.lay(x, "b").out();
+        x.flush();
+        layout("one that nobody needs and one that is gone", x, 0, 1, 0, 0, 0);
+    }
+
+    private static void stepsGoDown() {
+        LevelTables x = new LevelTables();
+        Tapes.lay(x, "a").put(1, 1);
+        x.flush();
+        x.merge(false);
+        layout("one step", x, 0, 0, 1, 0, 0);
+        Tapes.lay(x, "a").out();
+        x.flush();
+        layout("gone above what is there", x, 0, 1, 1, 0, 0);
+        x.merge(false);
+        layout("both are needed no more", x, 0, 0, 0, 0, 0);
+        Tapes.lay(x, "b").put(1, 1);
+        x.flush();
+        for (int step = 0; step < 5; step++) {
+            x.merge(false);
+        }
+        layout("five steps", x, 0, 0, 0, 0, 1);
+        Tapes.lay(x, "b").out();
+        x.flush();
+        x.merge(false);
+        layout("the key lies deeper", x, 0, 0, 1, 0, 1);
+        x.merge(false);
+        x.merge(false);
+        layout("down to the deepest", x, 0, 0, 0, 0, 0);
+    }
+
+    private static void wholeMergeLeavesWhatIsNeeded() {
+        LevelTables x = new LevelTables();
+        for (int i = 0; i < 90; i++) {
+            Tapes.lay(x, "k" + i % 30);
+            if (i % 30 < 10 && i >= 60) {
+                x.out();
+            } else {
+                x.put(i, 1);
+            }
+            if (i % 4 == 0) {
+                x.flush();
+            }
+        }
+        x.flush();
+        x.merge(true);
+        layout("twenty keys", x, 0, 0, 0, 0, 20);
+    }
+
+    private static void whatViewsSeeIsKept() {
+        LevelTables x = new LevelTables();
+        for (int i = 0; i < 10; i++) {
+            Tapes.lay(x, "a").put(i, 1);
+            if (i == 3 || i == 4) {
+                x.open(i);
+            }
+        }
+        Tapes.lay(x, "a").out();
+        x.flush();
+        layout("two are seen, and it is gone", x, 0, 3, 0, 0, 0);
+        x.close(3);
+        x.merge(true);
+        layout("one is seen", x, 0, 0, 0, 0, 2);
+        x.close(4);
+        x.merge(true);
+        layout("none is seen", x, 0, 0, 0, 0, 0);
+    }
+
+    private static void flushLeavesNoCrowd() {
+        LevelTables x = new LevelTables();
+        for (int i = 0; i < 170; i++) {
+            x.feed(i << 24, i, 0, 0, 0);
+            x.put(i, 1);
+            x.flush();
+            for (int level = 0; level <= Inside.DEEPEST; level++) {
+                int tables = Inside.tablesOf(x, level).size();
+                DUE.compare("level " + level + " has room with " + tables, "true",
+                        Boolean.toString(tables <= ALLOWED[level]));
+            }
+        }
+        DUE.compare("the deepest level was reached", "true",
+                Boolean.toString(!Inside.tablesOf(x, Inside.DEEPEST).isEmpty()));
+    }
+
+    private static void blocksComeBack() {
+        Random random = new Random(5);
+        LevelTables x = new LevelTables();
+        for (int i = 0; i < 400; i++) {
+            Tapes.lay(x, "k" + random.nextInt(60)).put(i, 1);
+            if (random.nextInt(3) == 0) {
+                x.flush();
+            }
+            if (random.nextInt(9) == 0) {
+                x.merge(random.nextInt(5) == 0);
+            }
+            int used = 0;
+            for (int level = 0; level <= Inside.DEEPEST; level++) {
+                for (Object table : Inside.tablesOf(x, level)) {
+                    used += Inside.blocksOf(table).length;
+                }
+            }
+            DUE.answers("the blocks that are taken", used, () -> Arrays.stream(Inside.takenOf(x)).sum());
+        }
+    }
+
+    /** Compares the number of versions in memory and on each level. */
+    private static void layout(String what, LevelTables x, int... due) {
+        int[] counts = new int[Inside.DEEPEST + 2];
+        counts[0] = Inside.countOf(Inside.get(x, "memory"));
+        for (int level = 0; level <= Inside.DEEPEST; level++) {
+            counts[level + 1] = Inside.countOf(Inside.levelOf(x, level));
+        }
+        DUE.compare(what, Arrays.toString(due), Arrays.toString(counts));
+    }
+}
