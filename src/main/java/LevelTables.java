@@ -128,11 +128,7 @@ public final class LevelTables {
         if (view < PRESENT || view >= VIEWS || !tape.hasKey()) {
             throw new IllegalArgumentException();
         }
-        tape.moveTo(key);
-        int moment = views.momentOf(view);
-        if (moment == NOT_OPEN) {
-            throw new IllegalStateException();
-        }
+        int moment = readTapeFor(view);
         return show(hasSomething(moment));
     }
 
@@ -141,11 +137,7 @@ public final class LevelTables {
         if (view < PRESENT || view >= VIEWS || tape.length() > LONGEST_KEY) {
             throw new IllegalArgumentException();
         }
-        tape.moveTo(key);
-        int moment = views.momentOf(view);
-        if (moment == NOT_OPEN) {
-            throw new IllegalStateException();
-        }
+        int moment = readTapeFor(view);
         key.setMoment(beyond ? FOREVER : 0);
         return show(reachSomething(moment));
     }
@@ -207,6 +199,16 @@ public final class LevelTables {
 
     public int check() {
         return isSound() ? countLiving() : -1;
+    }
+
+    /** Moves the tape to key, and answers the moment that the view sees. */
+    private int readTapeFor(int view) throws IllegalStateException {
+        tape.moveTo(key);
+        int moment = views.momentOf(view);
+        if (moment == NOT_OPEN) {
+            throw new IllegalStateException();
+        }
+        return moment;
     }
 
     private int addVersion(boolean there, int size, int place) throws IllegalStateException {

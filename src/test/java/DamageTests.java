@@ -20,7 +20,7 @@ public final class DamageTests {
         damage("two tables share a key", -1, DamageTests::shareKey);
         damage("a block is used twice", -1,
                 x -> Inside.tablesOf(x, Inside.DEEPEST - 1).add(Inside.tableOf(x, 0)));
-        damage("a block is written without being erased", -1, x -> write(x, blocksOf(x, 0)[0]));
+        damage("a block is written without being erased", -1, x -> write(x, givenBack(x)));
         damage("a block is written that never was erased", -1, x -> write(x, 999));
         DUE.finish();
     }
@@ -78,6 +78,15 @@ public final class DamageTests {
 
     private static void write(LevelTables x, int block) {
         Inside.call(Inside.get(x, "chip"), "write", block, 0, Inside.get(x, "key"));
+    }
+
+    /** A block that no table uses any more, and that was not erased since. */
+    private static int givenBack(LevelTables x) {
+        int block = 0;
+        while (Inside.takenOf(x)[block] != 0 || Inside.chipOf(x)[block] == null) {
+            block++;
+        }
+        return block;
     }
 
     private static int[] blocksOf(LevelTables x, int t) {

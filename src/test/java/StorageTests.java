@@ -12,6 +12,7 @@ public final class StorageTests {
         stepsGoDown();
         wholeMergeLeavesWhatIsNeeded();
         whatViewsSeeIsKept();
+        flushLeavesRoomAlone();
         flushLeavesNoCrowd();
         blocksComeBack();
         DUE.finish();
@@ -91,6 +92,18 @@ public final class StorageTests {
         x.close(4);
         x.merge(true);
         layout("none is seen", x, 0, 0, 0, 0, 0);
+    }
+
+    private static void flushLeavesRoomAlone() {
+        LevelTables x = new LevelTables();
+        for (int i = 0; i < 4; i++) {
+            Tapes.lay(x, "k" + i).put(i, 1);
+            x.flush();
+        }
+        layout("four tables", x, 0, 4, 0, 0, 0);
+        Tapes.lay(x, "k4").put(4, 1);
+        x.flush();
+        layout("five tables", x, 0, 4, 1, 0, 0);
     }
 
     private static void flushLeavesNoCrowd() {
