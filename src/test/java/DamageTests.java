@@ -22,7 +22,30 @@ public final class DamageTests {
                 x -> Inside.tablesOf(x, Inside.DEEPEST - 1).add(Inside.tableOf(x, 0)));
         damage("a block is written without being erased", -1, x -> write(x, givenBack(x)));
         damage("a block is written that never was erased", -1, x -> write(x, 999));
+        damage("the last version of all is another", -1, DamageTests::changeTheLast);
+        damage("the count that flush tells is another", 79, x -> Inside.set(x, "living", 5));
+        eachLevelIsLookedAt();
         DUE.finish();
+    }
+
+    /** One table lies on each level, and each in turn has one bit changed. */
+    private static void eachLevelIsLookedAt() {
+        LevelTables x = new LevelTables();
+        for (int level = Inside.DEEPEST; level >= 0; level--) {
+            Tapes.lay(x, "k" + level).put(level, 1);
+            x.flush();
+            for (int step = 0; step < level; step++) {
+                x.merge(false);
+            }
+        }
+        for (int level = 0; level <= Inside.DEEPEST; level++) {
+            Object table = Inside.tablesOf(x, level).get(0);
+            long[] block = Inside.chipOf(x)[Inside.blocksOf(table)[0]];
+            block[0] ^= 1;
+            DUE.answers("check with a damage on level " + level, -1, x::check);
+            block[0] ^= 1;
+            DUE.answers("check with none on level " + level, 4, x::check);
+        }
     }
 
     private static void damage(String what, int due, Consumer<LevelTables> how) {
@@ -64,6 +87,13 @@ public final class DamageTests {
         System.arraycopy(from, (PER_BLOCK - 1) * WORDS, to, 0, WORDS);
         to[WORDS - 1] += 1L << 42;
         sumAgain(x, 1);
+    }
+
+    private static void changeTheLast(LevelTables x) {
+        int t = Inside.tablesOf(x, Inside.DEEPEST).size() - 1;
+        int last = Inside.countOf(Inside.tableOf(x, t)) - 1;
+        long[] block = Inside.chipOf(x)[blocksOf(x, t)[last / PER_BLOCK]];
+        block[last % PER_BLOCK * WORDS + WORDS - 1] ^= 1;
     }
 
     private static void sumAgain(LevelTables x, int t) {

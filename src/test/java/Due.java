@@ -2,6 +2,7 @@ import java.util.function.LongSupplier;
 
 /** Counts the answers that are not the ones that are due. */
 final class Due {
+    private String sentence = "";
     private int wrong;
 
     /** What a call answers, as a text: a number, or the name of the exception behind throws. */
@@ -11,6 +12,17 @@ final class Due {
         } catch (RuntimeException thrown) {
             return "throws." + thrown.getClass().getSimpleName();
         }
+    }
+
+    /** Runs the test of one sentence of the document; what is wrong there is told with it. */
+    void under(String words, Runnable test) {
+        sentence = "\"" + words + "\" ";
+        try {
+            test.run();
+        } catch (RuntimeException thrown) {
+            compare("the test", "an end", thrown.toString());
+        }
+        sentence = "";
     }
 
     void answers(String what, long due, LongSupplier call) {
@@ -24,7 +36,7 @@ final class Due {
     void compare(String what, String due, String got) {
         if (!got.equals(due)) {
             wrong++;
-            System.out.println(what + " answered " + got + ", due is " + due);
+            System.out.println(sentence + what + " answered " + got + ", due is " + due);
         }
     }
 

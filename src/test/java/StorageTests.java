@@ -15,6 +15,7 @@ public final class StorageTests {
         flushLeavesRoomAlone();
         flushLeavesNoCrowd();
         blocksComeBack();
+        fullestTable();
         DUE.finish();
     }
 
@@ -141,6 +142,29 @@ public final class StorageTests {
             }
             DUE.answers("the blocks that are taken", used, () -> Arrays.stream(Inside.takenOf(x)).sum());
         }
+    }
+
+    /** A table that is all but full still takes all that is needed of one key: nine versions. */
+    private static void fullestTable() {
+        LevelTables x = new LevelTables();
+        for (int i = 0; i < 31; i++) {
+            Tapes.lay(x, "k" + (char) ('A' + i)).put(i, 1);
+        }
+        for (int view = 0; view <= 7; view++) {
+            Tapes.lay(x, "m").put(100 + view, 1);
+            x.open(view);
+        }
+        Tapes.lay(x, "m").put(108, 1);
+        Tapes.lay(x, "n").put(109, 1);
+        x.flush();
+        layout("two tables", x, 0, 41, 0, 0, 0);
+        DUE.answers("the versions of the first", 40, () -> Inside.countOf(Inside.tablesOf(x, 0).get(0)));
+        for (int view = 0; view <= 7; view++) {
+            int seen = view;
+            DUE.answers("view " + view, 100 + view, () -> Tapes.lay(x, "m").find(seen));
+        }
+        DUE.answers("the present one", 108, () -> Tapes.lay(x, "m").find(-1));
+        DUE.answers("check", 33, x::check);
     }
 
     /** Compares the number of versions in memory and on each level. */
