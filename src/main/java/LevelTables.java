@@ -44,6 +44,7 @@ public final class LevelTables {
     private final Chip chip = new Chip();
     private final Memory memory = new Memory();
     private final Level[] levels = new Level[DEEPEST + 1];
+    /** Memory, and behind it the levels: a level's run has the level's number and one more. */
     private final Run[] runs = new Run[RUNS];
     private final Walk walk;
     private final Writer writer;
@@ -129,7 +130,7 @@ public final class LevelTables {
             throw new IllegalArgumentException();
         }
         int moment = readTapeFor(view);
-        return show(hasSomething(moment));
+        return show(hasSomething(key, moment, 0));
     }
 
     public int seek(int view, boolean beyond)
@@ -216,7 +217,7 @@ public final class LevelTables {
         if (views.present() >= LIMIT) {
             throw new IllegalStateException();
         }
-        boolean before = hasSomething(views.present());
+        boolean before = hasSomething(key, views.present(), 0);
         views.step();
         key.describe(views.present(), there, size, place);
         memory.insert(key);
@@ -226,15 +227,15 @@ public final class LevelTables {
         return views.present();
     }
 
-    /** Tells whether the key has something at the moment, and leaves that version in found. */
-    private boolean hasSomething(int moment) {
-        target.copy(key);
+    /** Tells whether a key has something at a moment by the runs from one on; leaves it in found. */
+    private boolean hasSomething(Version version, int moment, int run) {
+        target.copy(version);
         target.setMoment(moment + 1);
-        for (int r = 0; r < RUNS; r++) {
+        for (int r = run; r < RUNS; r++) {
             int at = runs[r].firstNotBefore(target) - 1;
             if (at >= 0) {
                 runs[r].load(at, found);
-                if (found.compareKey(key) == 0) {
+                if (found.compareKey(version) == 0) {
                     return found.isThere();
                 }
             }
@@ -314,36 +315,42 @@ public final class LevelTables {
 
     /** Writes what the walk goes through as tables for a level, without what no moment needs. */
     private void writeNeeded(int level) {
-        boolean hasOlder = false;
+        boolean isBegun = false;
+        boolean wasThere = false;
         writer.begin();
         walk.begin();
         for (int i = 0; i < LIMIT && walk.advance(); i++) {
             Version version = walk.version();
-            // Where nothing older is left, nothing needs to be told to be gone.
-            if (views.need(version.moment(), walk.until())
-                    && (version.isThere() || hasOlder || isDeeper(version, level))) {
-                writer.add(version, !hasOlder);
-                hasOlder = true;
+            boolean isLast = walk.until() == FOREVER;
+            int until = isLast ? nextMoment(version, level) : walk.until();
+            // That a key has nothing needs to be told only where it would have something otherwise.
+            if (!isBegun && !version.isThere()) {
+                wasThere = hasSomething(version, version.moment(), level + 2);
             }
-            hasOlder = hasOlder && walk.until() != FOREVER;
+            if (views.need(version.moment(), until) && (version.isThere() || wasThere)) {
+                writer.add(version, !isBegun);
+                isBegun = true;
+                wasThere = version.isThere();
+            }
+            isBegun = isBegun && !isLast;
         }
         writer.seal();
     }
 
-    /** Tells whether a level below the given one holds a version of the key of this one. */
-    private boolean isDeeper(Version version, int level) {
+    /** The moment of the next version of the key, in memory or above a level; FOREVER if none comes. */
+    private int nextMoment(Version version, int level) {
         target.copy(version);
-        target.setMoment(0);
-        for (int below = level + 1; below <= DEEPEST; below++) {
-            int at = levels[below].firstNotBefore(target);
-            if (at < levels[below].count()) {
-                levels[below].load(at, found);
+        target.setMoment(version.moment() + 1);
+        for (int r = level; r >= 0; r--) {
+            int at = runs[r].firstNotBefore(target);
+            if (at < runs[r].count()) {
+                runs[r].load(at, found);
                 if (found.compareKey(version) == 0) {
-                    return true;
+                    return found.moment();
                 }
             }
         }
-        return false;
+        return FOREVER;
     }
 
     private boolean isSound() {

@@ -75,7 +75,7 @@ public final class BoundaryPromisesTests {
         due.under("9: (beyond: and not the same)", this::seekBeyond);
         due.under("9: none is CURRENT", this::seekLosesCurrent);
         due.under("9: has something for it", this::seekOverWhatHasNothing);
-        due.under("9: has something for it: the last of 500", this::seekOverAllOthers);
+        due.under("9: has something for it: the last of all", this::seekOverAllOthers);
     }
 
     private void currentAndWord() {
@@ -112,11 +112,23 @@ public final class BoundaryPromisesTests {
         return x;
     }
 
+    /** The keys k1, k2 and k3 of so many puts and outs. */
     private static LevelTables withMade(int made) {
+        return Inside.letPass(with("k1", "k2", "k3"), made);
+    }
+
+    /** A key for each of so many puts, with two calls for each; its place is its number, from 1 on. */
+    private static LevelTables withKeys(int puts) {
         LevelTables x = new LevelTables();
-        for (int i = 1; i <= made; i++) {
-            lay(x, "k" + i).put(i, 1);
+        for (int i = 1; i <= puts; i++) {
+            layNumber(x, i).put(i, 1);
         }
+        return x;
+    }
+
+    /** Lays a key of twenty bytes with one call; the order of the keys is not that of the numbers. */
+    private static LevelTables layNumber(LevelTables x, int number) {
+        x.feed(number * 0x9e3779b9, number, 0, 0, 0);
         return x;
     }
 
@@ -308,7 +320,7 @@ public final class BoundaryPromisesTests {
         putIsRefused(1, MOST);
     }
 
-    /** The 500th version of all has the longest key, the greatest place and the greatest size. */
+    /** The 500th put has the longest key, the greatest place and the greatest size. */
     private void putTheGreatest() {
         for (Storage storage : Storage.values()) {
             LevelTables x = withMade(499);
@@ -319,7 +331,7 @@ public final class BoundaryPromisesTests {
             due.answers("moment in " + storage, 500, () -> x.current(2));
             due.answers("length in " + storage, 40, () -> x.current(3));
             due.answers("bytes in " + storage, -1, () -> x.word(32));
-            due.answers("check in " + storage, 500, x::check);
+            due.answers("check in " + storage, 4, x::check);
         }
     }
 
@@ -332,7 +344,7 @@ public final class BoundaryPromisesTests {
         due.answers("the key stays", 77, () -> lay(x, "k1").find(-1));
         due.refuses("a new key", STATE, () -> lay(x, "new").put(88, 8));
         due.refuses("it has nothing", NONE, () -> lay(x, "new").find(-1));
-        due.answers("the count stays", 499, x::check);
+        due.answers("the count stays", 3, x::check);
     }
 
     private void putCountsFromTheNext() {
@@ -353,8 +365,8 @@ public final class BoundaryPromisesTests {
         due.refuses("it read the tape", ARGUMENT, x::out);
         due.answers("the moment stays", 500, () -> x.open(0));
         due.answers("the key stays", 2, () -> lay(x, "k2").find(-1));
-        due.answers("the count stays", 498, x::check);
-        due.answers("and is told likewise", 498, x::flush);
+        due.answers("the count stays", 2, x::check);
+        due.answers("and is told likewise", 2, x::flush);
     }
 
     private void outCountsFromTheNext() {
@@ -420,10 +432,11 @@ public final class BoundaryPromisesTests {
     private void openAtTheEdges() {
         LevelTables x = new LevelTables();
         due.answers("at moment 0", 0, () -> x.open(0));
-        for (int i = 1; i <= 500; i++) {
-            lay(x, "k" + i % 9).put(i, 1);
-        }
+        lay(x, "a").put(1, 1);
+        Inside.letPass(x, 499);
+        due.answers("the last put", 500, () -> lay(x, "a").put(500, 1));
         due.answers("at moment 500", 500, () -> x.open(1));
+        due.answers("what it sees at 500", 500, () -> lay(x, "a").find(1));
         due.answers("what it saw at 500", 500, () -> x.close(1));
         due.refuses("nothing at 0", NONE, () -> x.seek(0, false));
         due.answers("what it saw at 0", 0, () -> x.close(0));
@@ -669,14 +682,16 @@ public final class BoundaryPromisesTests {
 
     private void seekOverAllOthers() {
         for (Storage storage : Storage.values()) {
-            LevelTables x = new LevelTables();
-            for (int i = 1; i < 500; i++) {
-                lay(x, "k" + i).out();
+            LevelTables x = withKeys(120);
+            x.open(0);
+            for (int i = 1; i <= 120; i++) {
+                layNumber(x, i).out();
             }
             lay(x, HIGHEST).put(MOST, 0);
             storage.settle(x);
             due.answers("from no byte in " + storage, MOST, () -> x.seek(-1, false));
-            due.answers("beyond the first in " + storage, MOST, () -> lay(x, "k1").seek(-1, true));
+            due.answers("beyond a key that has nothing in " + storage, MOST, () -> layNumber(x, 7).seek(-1, true));
+            due.answers("view 0 from that key on in " + storage, 7, () -> layNumber(x, 7).seek(0, false));
         }
     }
 
@@ -810,42 +825,45 @@ public final class BoundaryPromisesTests {
     }
 
     private void flushOfAll() {
-        LevelTables keys = withMade(500);
-        due.answers("500 keys", 500, keys::flush);
-        due.answers("500 keys by check", 500, keys::check);
-        for (int i = 1; i <= 500; i++) {
+        LevelTables most = withKeys(255);
+        due.answers("255 keys", 255, most::flush);
+        due.answers("255 keys by check, the last call", 255, most::check);
+        LevelTables keys = withKeys(125);
+        due.answers("125 keys", 125, keys::flush);
+        for (int i = 1; i <= 125; i++) {
             int nth = i;
-            due.answers("key " + i, i, () -> lay(keys, "k" + nth).find(-1));
+            due.answers("key " + i, i, () -> layNumber(keys, nth).find(-1));
         }
         LevelTables one = new LevelTables();
-        for (int i = 1; i <= 500; i++) {
-            lay(one, "a").put(i, 1);
-            if (i % 70 == 0) {
-                one.open(i / 70);
+        for (int i = 1; i <= 240; i++) {
+            layNumber(one, 1).put(i, 1);
+            if (i % 30 == 0) {
+                one.open(i / 30 - 1);
             }
         }
-        due.answers("500 of one key", 1, one::flush);
-        for (int view = 1; view <= 7; view++) {
+        layNumber(one, 1).put(241, 1);
+        due.answers("241 of one key", 1, one::flush);
+        for (int view = 0; view <= 7; view++) {
             int seen = view;
-            due.answers("what view " + view + " sees", 70 * view, () -> lay(one, "a").find(seen));
+            due.answers("what view " + view + " sees", 30 * view + 30, () -> layNumber(one, 1).find(seen));
         }
-        due.answers("the last", 500, () -> lay(one, "a").find(-1));
-        due.answers("500 of one key by check", 1, one::check);
+        due.answers("the last", 241, () -> layNumber(one, 1).find(-1));
+        due.answers("241 of one key by check", 1, one::check);
     }
 
     /** Keys that never overlap take a block each, which is as many blocks as can be. */
     private void flushOneByOne() {
         LevelTables x = new LevelTables();
-        for (int i = 1; i <= 500; i++) {
+        for (int i = 1; i <= 169; i++) {
             x.feed(i, 0, 0, 0, 0);
             x.put(i, 1);
             due.answers("flush " + i, i, x::flush);
         }
-        due.answers("check", 500, x::check);
-        due.answers("merge", 500, () -> x.merge(true));
-        due.answers("check behind it", 500, x::check);
-        x.feed(500, 0, 0, 0, 0);
-        due.answers("the last", 500, () -> x.find(-1));
+        due.answers("check", 169, x::check);
+        due.answers("merge", 169, () -> x.merge(true));
+        due.answers("check behind it", 169, x::check);
+        x.feed(169, 0, 0, 0, 0);
+        due.answers("the last", 169, () -> x.find(-1));
     }
 
     private void mergeOfNothing() {
@@ -931,8 +949,8 @@ public final class BoundaryPromisesTests {
             x.open(0);
             lay(x, "a").out();
             due.answers("one, seen alone, in " + storage, 0, () -> storage.settle(x).check());
-            LevelTables all = withMade(500);
-            due.answers("500 in " + storage, 500, () -> storage.settle(all).check());
+            LevelTables all = withKeys(253);
+            due.answers("253 in " + storage, 253, () -> storage.settle(all).check());
         }
     }
 

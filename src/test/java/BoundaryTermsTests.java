@@ -91,12 +91,9 @@ public final class BoundaryTermsTests {
         return x;
     }
 
+    /** The keys a, b and c of so many puts and outs. */
     private static LevelTables withMade(int made) {
-        LevelTables x = new LevelTables();
-        for (int i = 0; i < made; i++) {
-            lay(x, "k" + i % 90).put(i, 1);
-        }
-        return x;
+        return Inside.letPass(withThree(), made);
     }
 
     private void isEmpty(String what, LevelTables x) {
@@ -417,20 +414,20 @@ public final class BoundaryTermsTests {
         }
     }
 
-    /** So many puts and outs in turn; the limit cannot be reached with 512 calls. */
+    /** So many puts and outs in turn; the first 400 have passed. */
     private void fiveHundred(int puts, int outs) {
-        LevelTables x = new LevelTables();
-        for (int i = 1; i <= 500; i++) {
+        LevelTables x = Inside.letPass(new LevelTables(), 400);
+        for (int i = 401; i <= 500; i++) {
             int nth = i;
             lay(x, "k" + i);
             boolean isPut = i % (puts + outs) < puts;
             due.answers("number " + i, i, () -> isPut ? x.put(nth, 1) : x.out());
         }
-        due.refuses("a 501st put", STATE, () -> lay(x, "k1").put(0, 0));
-        due.refuses("a 501st out", STATE, () -> lay(x, "k1").out());
-        due.refuses("one more put", STATE, () -> lay(x, "k1").put(0, 0));
+        due.refuses("a 501st put", STATE, () -> lay(x, "k401").put(0, 0));
+        due.refuses("a 501st out", STATE, () -> lay(x, "k402").out());
+        due.refuses("one more put", STATE, () -> lay(x, "k403").put(0, 0));
         due.answers("the present one", 500, () -> x.open(0));
-        int living = 500 * puts / (puts + outs);
+        int living = 100 * puts / (puts + outs);
         due.answers("check", living, x::check);
         due.answers("flush", living, x::flush);
         due.answers("merge", living, () -> x.merge(true));
@@ -447,8 +444,8 @@ public final class BoundaryTermsTests {
     }
 
     private void mergingGivesNoneBack() {
-        LevelTables x = new LevelTables();
-        for (int i = 0; i < 500; i++) {
+        LevelTables x = withMade(400);
+        for (int i = 400; i < 500; i++) {
             lay(x, "a").put(i, 1);
             x.flush();
         }
@@ -461,15 +458,17 @@ public final class BoundaryTermsTests {
 
     private void allElseGoesOn() {
         LevelTables x = withMade(500);
-        due.refuses("put", STATE, () -> lay(x, "k0").put(0, 0));
+        due.refuses("put", STATE, () -> lay(x, "a").put(0, 0));
         due.answers("open", 500, () -> x.open(3));
-        due.answers("find", 450, () -> lay(x, "k0").find(3));
-        due.answers("seek", 451, () -> lay(x, "k0").seek(3, true));
-        due.answers("check", 90, x::check);
-        due.answers("flush", 90, x::flush);
-        due.answers("a step", 90, () -> x.merge(false));
-        due.answers("all of it", 90, () -> x.merge(true));
-        due.answers("find behind it", 499, () -> lay(x, "k49").find(3));
+        due.answers("find", 1, () -> lay(x, "a").find(3));
+        due.answers("seek", 2, () -> lay(x, "a").seek(3, true));
+        due.answers("current", 20, () -> x.current(1));
+        due.answers("word", 0x6200000000000000L, () -> x.word(0));
+        due.answers("check", 3, x::check);
+        due.answers("flush", 3, x::flush);
+        due.answers("a step", 3, () -> x.merge(false));
+        due.answers("all of it", 3, () -> x.merge(true));
+        due.answers("find behind it", 3, () -> lay(x, "c").find(3));
         due.answers("close", 500, () -> x.close(3));
     }
 

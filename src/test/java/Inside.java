@@ -39,6 +39,25 @@ final class Inside {
         return (int) get(run, "count");
     }
 
+    /** How many versions lie in memory and on each level. */
+    static int[] layoutOf(LevelTables x) {
+        int[] counts = new int[DEEPEST + 2];
+        counts[0] = countOf(get(x, "memory"));
+        for (int level = 0; level <= DEEPEST; level++) {
+            counts[level + 1] = countOf(levelOf(x, level));
+        }
+        return counts;
+    }
+
+    /**
+     * Brings the present moment to this one, as outs of keys that had nothing would: with 512 calls,
+     * more than 256 puts and outs cannot be made, so that none of the 500 would ever be missing.
+     */
+    static LevelTables letPass(LevelTables x, int moment) {
+        set(get(x, "views"), "present", moment);
+        return x;
+    }
+
     static Object get(Object object, String field) {
         try {
             return fieldOf(object, field).get(object);

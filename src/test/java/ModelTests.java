@@ -4,10 +4,8 @@ import java.util.function.LongSupplier;
 
 /** Long mixed runs, each call of which must answer as the plain model does. */
 public final class ModelTests {
-    /** Beyond the 512 calls that the document speaks of, so that the 500 puts and outs are reached too. */
-    private static final int LONG_RUN = 2400;
     private static final int RUN = 512;
-    private static final int RUNS = 1500;
+    private static final int RUNS = 2000;
 
     private final Due due;
     private final Random random;
@@ -37,13 +35,23 @@ public final class ModelTests {
     public static void main(String[] args) {
         Due due = new Due();
         for (int seed = 0; seed < RUNS && !due.hasWrong(); seed++) {
-            new ModelTests(due, seed).go(seed % 10 == 0 ? LONG_RUN : RUN);
+            ModelTests run = new ModelTests(due, seed);
+            if (seed % 5 == 0) {
+                run.letPass(400 + run.random.nextInt(100));
+            }
+            run.go();
         }
         due.finish();
     }
 
-    private void go(int length) {
-        while (calls < length && !due.hasWrong()) {
+    /** So many are made before the run begins that the 500th is made in it. */
+    private void letPass(int made) {
+        Inside.letPass(tables, made);
+        model.letPass(made);
+    }
+
+    private void go() {
+        while (calls < RUN && !due.hasWrong()) {
             step();
         }
     }
@@ -85,9 +93,12 @@ public final class ModelTests {
             }
             case 4 -> open(random.nextInt(8));
             case 5 -> close(random.nextInt(8));
-            case 6 -> both("flush()", tables::flush, model::living);
+            case 6 -> both("flush()", tables::flush, model::flush);
             case 7 -> both("merge(false)", () -> tables.merge(false), model::living);
-            case 8 -> both("merge(true)", () -> tables.merge(true), model::living);
+            case 8 -> {
+                both("merge(true)", () -> tables.merge(true), model::living);
+                isWhatIsNeeded();
+            }
             case 9 -> lookAtCurrent();
             case 10 -> both("check()", tables::check, model::living);
             default -> anything();
@@ -184,7 +195,17 @@ public final class ModelTests {
         both("word(" + i + ")", () -> tables.word(i), () -> model.word(i));
     }
 
+    private void isWhatIsNeeded() {
+        int[] layout = Inside.layoutOf(tables);
+        due.answers(name + ", call " + calls + ": the versions on the deepest level", model.needed(),
+                () -> layout[layout.length - 1]);
+    }
+
+    /** The last step may have more calls than are left. */
     private void both(String call, LongSupplier program, LongSupplier plain) {
+        if (calls == RUN) {
+            return;
+        }
         calls++;
         due.compare(name + ", call " + calls + ": " + call, Due.answerOf(plain), Due.answerOf(program));
     }

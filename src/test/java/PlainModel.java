@@ -13,6 +13,7 @@ final class PlainModel {
     private final int[] seen = new int[8];
     private byte[] tape = new byte[0];
     private Version current;
+    private int flushed;
 
     PlainModel() {
         Arrays.fill(seen, -1);
@@ -115,6 +116,62 @@ final class PlainModel {
             count += at(key, versions.size()) != null ? 1 : 0;
         }
         return count;
+    }
+
+    /** So many outs of a key that has nothing. */
+    void letPass(int outs) {
+        for (int i = 0; i < outs; i++) {
+            versions.add(new Version(new byte[1], versions.size() + 1, false, 0, 0));
+        }
+    }
+
+    int flush() {
+        flushed = versions.size();
+        return living();
+    }
+
+    /** How many versions wholly merged tables hold, if they hold what a moment needs and no more. */
+    int needed() {
+        int count = 0;
+        for (byte[] key : keys()) {
+            count += neededOf(key);
+        }
+        return count;
+    }
+
+    /** What a key has at one seen moment is told once, and that it has it no more at the next. */
+    private int neededOf(byte[] key) {
+        int count = 0;
+        Version told = null;
+        for (int moment : seenMoments()) {
+            if (isInMemory(key, moment)) {
+                return count;
+            }
+            Version version = at(key, moment);
+            count += version != told ? 1 : 0;
+            told = version;
+        }
+        return count;
+    }
+
+    private TreeSet<Integer> seenMoments() {
+        TreeSet<Integer> moments = new TreeSet<>(List.of(versions.size()));
+        for (int moment : seen) {
+            if (moment >= 0) {
+                moments.add(moment);
+            }
+        }
+        return moments;
+    }
+
+    /** Tells whether the last version of a key up to a moment has not been written out yet. */
+    private boolean isInMemory(byte[] key, int moment) {
+        for (int i = flushed; i < moment; i++) {
+            if (Arrays.equals(versions.get(i).key, key)) {
+                return true;
+            }
+        }
+        return false;
     }
 
     private TreeSet<byte[]> keys() {

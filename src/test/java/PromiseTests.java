@@ -124,27 +124,20 @@ public final class PromiseTests {
         due.answers("4: the long tape is left", 41, () -> x.end(41));
     }
 
-    /** More calls than the document speaks of: only so can the limit be reached. */
     private void promise4And5FiveHundred() {
-        LevelTables x = new LevelTables();
-        for (int i = 0; i < 500; i++) {
-            lay(x, "key" + i % 300);
-            if (i % 7 == 0) {
-                x.out();
-            } else {
-                x.put(i, 1);
-            }
-        }
+        LevelTables x = Inside.letPass(with("key1", "key2"), 498);
+        due.answers("5: the 499th", 499, () -> lay(x, "key1").out());
+        due.answers("4: the 500th", 500, () -> lay(x, "key2").put(302, 1));
         due.refuses("4: the argument comes first", ARGUMENT, () -> lay(x, "a").put(-1, 0));
         due.refuses("4: 500 were made", STATE, () -> x.put(0, 0));
         due.refuses("4: the tape is empty", ARGUMENT, () -> x.put(0, 0));
         due.refuses("5: 500 were made", STATE, () -> lay(x, "key2").out());
         due.refuses("5: the tape is empty", ARGUMENT, () -> x.out());
         due.answers("5: key2 is still there", 302, () -> lay(x, "key2").find(-1));
-        int living = x.check();
-        due.answers("12: 500 in memory", living, x::flush);
-        due.answers("13: 500 in tables", living, () -> x.merge(true));
-        due.answers("14: 500 merged", living, x::check);
+        due.answers("10: its moment", 500, () -> x.current(2));
+        due.answers("12: with 500 made", 1, x::flush);
+        due.answers("13: with 500 made", 1, () -> x.merge(true));
+        due.answers("14: with 500 made", 1, x::check);
     }
 
     private void promise5Out() {

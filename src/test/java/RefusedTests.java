@@ -46,9 +46,9 @@ public final class RefusedTests {
         Tapes.lay(x, "cccccccccc").put(4, 40);
         x.open(7);
         storage.settle(x);
-        int made = isFull ? 500 : 6;
-        for (int moment = 6; moment <= made; moment++) {
-            Tapes.lay(x, "a").put(moment, 50);
+        Tapes.lay(x, "a").put(6, 50);
+        if (isFull) {
+            Inside.letPass(x, 500);
         }
         Tapes.lay(x, "a").find(1);
         return Tapes.lay(x, tape);
@@ -157,7 +157,6 @@ public final class RefusedTests {
         return x;
     }
 
-    /** More calls than the document speaks of: the limit cannot be reached with 512. */
     private void fullEmptiesTheTapeAlone() {
         isFull = true;
         for (String tape : new String[] {"a", "b", "new", FORTY}) {

@@ -17,7 +17,7 @@ public final class RoomTests {
 
     private static void putAndFlush(int calls) {
         LevelTables x = new LevelTables();
-        for (int i = 0; i < calls; i += 3) {
+        for (int i = 0; i + 3 <= calls; i += 3) {
             x.feed(i * 0x9e3779b9, i, i, i, i);
             x.put(i, 1);
             x.flush();
@@ -26,14 +26,14 @@ public final class RoomTests {
 
     private static void mergeWholly(int calls) {
         LevelTables x = filled(calls / 4);
-        for (int i = calls / 2; i < calls; i++) {
+        for (int i = calls / 2 + 1; i < calls; i++) {
             x.merge(true);
         }
     }
 
     private static void mergeByStep(int calls) {
         LevelTables x = filled(calls / 8);
-        for (int i = calls / 4; i + 4 <= calls; i += 4) {
+        for (int i = calls / 4 + 1; i + 4 <= calls; i += 4) {
             x.feed(i * 0x9e3779b9, i, i, i, i);
             x.put(i, 1);
             x.flush();

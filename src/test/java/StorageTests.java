@@ -1,4 +1,5 @@
 import java.util.Arrays;
+import java.util.NoSuchElementException;
 import java.util.Random;
 
 /** Promises 12 and 13 inside: what goes to tables, how deep it gets, and what is left out on the way. */
@@ -14,7 +15,12 @@ public final class StorageTests {
         whatViewsSeeIsKept();
         flushLeavesRoomAlone();
         flushLeavesNoCrowd();
-        blocksComeBack();
+        hiddenInMemory();
+        hiddenByAnotherTable();
+        nothingIsToldTwice();
+        for (int seed = 0; seed < 30; seed++) {
+            blocksComeBack(new Random(seed));
+        }
         fullestTable();
         DUE.finish();
     }
@@ -95,6 +101,79 @@ public final class StorageTests {
         layout("none is seen", x, 0, 0, 0, 0, 0);
     }
 
+    private static void hiddenInMemory() {
+        for (boolean whole : new boolean[] {false, true}) {
+            LevelTables x = new LevelTables();
+            Tapes.lay(x, "a").put(1, 1);
+            Tapes.lay(x, "b").put(2, 2);
+            Tapes.lay(x, "c").put(3, 3);
+            x.flush();
+            Tapes.lay(x, "a").put(4, 4);
+            Tapes.lay(x, "c").out();
+            x.merge(whole);
+            layout("b alone is not hidden", x, 2, 0, whole ? 0 : 1, 0, whole ? 1 : 0);
+            DUE.answers("a", 4, () -> Tapes.lay(x, "a").find(-1));
+            DUE.refuses("c", NoSuchElementException.class, () -> Tapes.lay(x, "c").find(-1));
+            DUE.answers("check", 2, x::check);
+        }
+        LevelTables seen = new LevelTables();
+        Tapes.lay(seen, "a").put(1, 1);
+        seen.flush();
+        seen.open(0);
+        Tapes.lay(seen, "a").put(2, 2);
+        seen.merge(true);
+        layout("hidden, but seen", seen, 1, 0, 0, 0, 1);
+        DUE.answers("what is seen", 1, () -> Tapes.lay(seen, "a").find(0));
+        seen.close(0);
+        seen.merge(true);
+        layout("hidden, and not seen any more", seen, 1, 0, 0, 0, 0);
+    }
+
+    /** The table that goes down meets one below it that another table of its own level hides a key of. */
+    private static void hiddenByAnotherTable() {
+        LevelTables x = new LevelTables();
+        Tapes.lay(x, "b").put(1, 1);
+        Tapes.lay(x, "d").put(2, 2);
+        x.flush();
+        x.merge(false);
+        Tapes.lay(x, "c").put(3, 3);
+        x.flush();
+        Tapes.lay(x, "d").put(4, 4);
+        x.flush();
+        x.open(0);
+        Tapes.lay(x, "d").put(5, 5);
+        layout("d three times", x, 1, 2, 2, 0, 0);
+        x.merge(false);
+        layout("d as it is seen, and as it is", x, 1, 1, 2, 0, 0);
+        DUE.answers("d as it is seen", 4, () -> Tapes.lay(x, "d").find(0));
+        DUE.answers("d", 5, () -> Tapes.lay(x, "d").find(-1));
+        DUE.answers("check", 3, x::check);
+    }
+
+    private static void nothingIsToldTwice() {
+        LevelTables x = new LevelTables();
+        Tapes.lay(x, "a").put(1, 1);
+        x.open(0);
+        Tapes.lay(x, "a").out();
+        x.open(1);
+        Tapes.lay(x, "a").put(3, 3);
+        Tapes.lay(x, "a").out();
+        x.flush();
+        layout("the first out tells it for both", x, 0, 2, 0, 0, 0);
+        x.merge(true);
+        Tapes.lay(x, "a").out();
+        x.flush();
+        layout("nor is it told where the level below does", x, 0, 0, 0, 0, 2);
+        x.close(1);
+        x.merge(true);
+        layout("the present moment needs it", x, 0, 0, 0, 0, 2);
+        DUE.answers("what is seen", 1, () -> Tapes.lay(x, "a").find(0));
+        DUE.refuses("what is there", NoSuchElementException.class, () -> Tapes.lay(x, "a").find(-1));
+        x.close(0);
+        x.merge(true);
+        layout("nothing is left", x, 0, 0, 0, 0, 0);
+    }
+
     private static void flushLeavesRoomAlone() {
         LevelTables x = new LevelTables();
         for (int i = 0; i < 4; i++) {
@@ -123,10 +202,9 @@ public final class StorageTests {
                 Boolean.toString(!Inside.tablesOf(x, Inside.DEEPEST).isEmpty()));
     }
 
-    private static void blocksComeBack() {
-        Random random = new Random(5);
+    private static void blocksComeBack(Random random) {
         LevelTables x = new LevelTables();
-        for (int i = 0; i < 400; i++) {
+        for (int i = 0; i < 110; i++) {
             Tapes.lay(x, "k" + random.nextInt(60)).put(i, 1);
             if (random.nextInt(3) == 0) {
                 x.flush();
@@ -169,11 +247,6 @@ public final class StorageTests {
 
     /** Compares the number of versions in memory and on each level. */
     private static void layout(String what, LevelTables x, int... due) {
-        int[] counts = new int[Inside.DEEPEST + 2];
-        counts[0] = Inside.countOf(Inside.get(x, "memory"));
-        for (int level = 0; level <= Inside.DEEPEST; level++) {
-            counts[level + 1] = Inside.countOf(Inside.levelOf(x, level));
-        }
-        DUE.compare(what, Arrays.toString(due), Arrays.toString(counts));
+        DUE.compare(what, Arrays.toString(due), Arrays.toString(Inside.layoutOf(x)));
     }
 }
