@@ -50,8 +50,8 @@ final class Inside {
     }
 
     /**
-     * Brings the present moment to this one, as outs of keys that had nothing would: with 512 calls,
-     * more than 256 puts and outs cannot be made, so that none of the 500 would ever be missing.
+     * Brings the present moment to this one, as outs of keys that have nothing would: 512 calls make
+     * at most 256 puts and outs, as each needs a feed, so that the limit of 500 is reached only so.
      */
     static LevelTables letPass(LevelTables x, int moment) {
         set(get(x, "views"), "present", moment);

@@ -9,19 +9,17 @@ public final class StorageTests {
     private static final Due DUE = new Due();
 
     public static void main(String[] args) {
-        flushEmptiesMemory();
-        stepsGoDown();
-        wholeMergeLeavesWhatIsNeeded();
-        whatViewsSeeIsKept();
-        flushLeavesRoomAlone();
-        flushLeavesNoCrowd();
-        hiddenInMemory();
-        hiddenByAnotherTable();
-        nothingIsToldTwice();
-        for (int seed = 0; seed < 30; seed++) {
-            blocksComeBack(new Random(seed));
-        }
-        fullestTable();
+        DUE.under("What lies in memory goes to tables.", StorageTests::flushEmptiesMemory);
+        DUE.under("A step of merging", StorageTests::stepsGoDown);
+        DUE.under("or (whole) all of it.", StorageTests::wholeMergeLeavesWhatIsNeeded);
+        DUE.under("found for every moment that is seen", StorageTests::whatViewsSeeIsKept);
+        DUE.under("with what no moment needs left out: memory", StorageTests::hiddenInMemory);
+        DUE.under("with what no moment needs left out: a table", StorageTests::hiddenByAnotherTable);
+        DUE.under("with what no moment needs left out: outs", StorageTests::nothingIsToldTwice);
+        DUE.under("four levels: room", StorageTests::flushLeavesRoomAlone);
+        DUE.under("four levels: no room", StorageTests::flushLeavesNoCrowd);
+        DUE.under("a flash chip: its blocks", StorageTests::blocksComeBack);
+        DUE.under("sorted tables: the fullest", StorageTests::fullestTable);
         DUE.finish();
     }
 
@@ -200,6 +198,12 @@ public final class StorageTests {
         }
         DUE.compare("the deepest level was reached", "true",
                 Boolean.toString(!Inside.tablesOf(x, Inside.DEEPEST).isEmpty()));
+    }
+
+    private static void blocksComeBack() {
+        for (int seed = 0; seed < 30; seed++) {
+            blocksComeBack(new Random(seed));
+        }
     }
 
     private static void blocksComeBack(Random random) {
